@@ -530,6 +530,9 @@ public final class PromiseTest {
         for (int what : new int[] {-1, 2, 3, Integer.MIN_VALUE, Integer.MAX_VALUE}) {
             due("14: extreme(0, " + what + ")", x.extreme(0, what), NONE);
         }
+        InputExplorer sum = with(ADD, ab(0, 1), 0);
+        due("14: least at input 0 alone", sum.extreme(0, 0), 0);
+        due("14: greatest at input 255 alone", sum.extreme(0, 1), 30);
         InputExplorer below = with(SET, 2, -20, ADD, ab(2, 0), 0);
         due("14: greatest of numbers below 0", below.extreme(2, 1), -5);
         due("14: least of numbers below 0", below.extreme(2, 0), -20);
