@@ -1,6 +1,7 @@
 /**
  * Each sentence of the document that names a boundary case, by a test of its own.
- * A test begins with the sentence's words, which are printed with every wrong answer.
+ * A test begins with the sentence's words, shortened or with the case that is meant;
+ * they are printed with every wrong answer.
  */
 public final class BoundaryTest {
     private static final int BAD = -1;
@@ -95,7 +96,7 @@ public final class BoundaryTest {
         aboutEnds();
         aboutStepsDone();
         aboutRefusal();
-        System.out.println(wrong == 0 ? tests + " sentences hold (" + answers + " answers)"
+        System.out.println(wrong == 0 ? tests + " tests hold (" + answers + " answers)"
             : wrong + " answers are not as due");
         if (wrong != 0) {
             System.exit(1);
